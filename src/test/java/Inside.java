@@ -1,0 +1,109 @@
+import java.lang.reflect.Array;
+import java.lang.reflect.Field;
+import java.lang.reflect.Modifier;
+
+/** Looks into a store, and can spoil it, for the tests of what no answer of a right store shows. */
+final class Inside {
+  static final int WIDTH = 5;
+  static final int ASKED = 0;
+  static final int LOW = 1;
+  static final int HIGH = 2;
+  static final int NEXT = 3;
+  static final int REFERENCES = 4;
+
+  private final DiagramStore store;
+  private final Object nodes;
+
+  Inside(DiagramStore store) {
+    this.store = store;
+    this.nodes = read(store, "nodes");
+  }
+
+  private static Object read(Object owner, String name) {
+    try {
+      Field field = owner.getClass().getDeclaredField(name);
+      field.setAccessible(true);
+      return field.get(owner);
+    } catch (ReflectiveOperationException e) {
+      throw new IllegalStateException(e);
+    }
+  }
+
+  int[] slots() {
+    return (int[]) read(store, "slots");
+  }
+
+  int[] rows() {
+    return (int[]) read(nodes, "rows");
+  }
+
+  int[] order() {
+    return ((int[]) read(nodes, "variables")).clone();
+  }
+
+  int size() {
+    return (Integer) read(nodes, "size");
+  }
+
+  /** How many nodes the slots need, the ends not counted. */
+  int needed() {
+    boolean[] met = new boolean[rows().length / WIDTH];
+    int found = 0;
+    for (int root : slots()) {
+      found += meet(root, met);
+    }
+    return found;
+  }
+
+  private int meet(int node, boolean[] met) {
+    if (node < 2 || met[node]) {
+      return 0;
+    }
+    met[node] = true;
+    return 1 + meet(rows()[node * WIDTH + LOW], met) + meet(rows()[node * WIDTH + HIGH], met);
+  }
+
+  /** How many inner nodes of the chains have another number of references than there are. */
+  int wrongReferences() {
+    int[] rows = rows();
+    int[] due = new int[rows.length / WIDTH];
+    boolean[] there = new boolean[due.length];
+    for (int head : (int[]) read(nodes, "heads")) {
+      for (int node = head; node != 0; node = rows[node * WIDTH + NEXT]) {
+        there[node] = true;
+        due[rows[node * WIDTH + LOW]]++;
+        due[rows[node * WIDTH + HIGH]]++;
+      }
+    }
+    for (int root : slots()) {
+      due[root]++;
+    }
+    int wrong = 0;
+    for (int node = 2; node < due.length; node++) {
+      if (there[node] ? rows[node * WIDTH + REFERENCES] != due[node] : due[node] != 0) {
+        wrong++;
+      }
+    }
+    return wrong;
+  }
+
+  /** All fields and elements that belong to the store. */
+  long fieldsAndElements() {
+    return weigh(store) + weigh(nodes) + weigh(read(store, "algebra"))
+        + weigh(read(read(store, "algebra"), "memo")) + weigh(read(store, "sifting"));
+  }
+
+  private static long weigh(Object owner) {
+    long sum = 0;
+    for (Field field : owner.getClass().getDeclaredFields()) {
+      if (!Modifier.isStatic(field.getModifiers())) {
+        sum++;
+        Object held = read(owner, field.getName());
+        if (held.getClass().isArray()) {
+          sum += Array.getLength(held);
+        }
+      }
+    }
+    return sum;
+  }
+}
