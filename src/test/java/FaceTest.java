@@ -32,8 +32,9 @@ public final class FaceTest {
   }
 
   private static String told(Method method) {
-    String told = method.getReturnType().getSimpleName() + " " + method.getName() + "(" + names(method.getParameterTypes()) + ")";
-    return (told + " " + names(method.getExceptionTypes())).trim();
+    String parameters = "(" + names(method.getParameterTypes()) + ") ";
+    String told = method.getReturnType().getSimpleName() + " " + method.getName() + parameters;
+    return (told + names(method.getExceptionTypes())).trim();
   }
 
   private static void members(Class<?> type, Set<String> taken) {

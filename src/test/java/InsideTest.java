@@ -110,7 +110,8 @@ public final class InsideTest {
       } else if (i % 3 == 1) {
         CHECKS.due("turn", x.turn(slot, slot), y.turn(slot, slot));
       } else {
-        CHECKS.due("join", x.join(slot, 2, slot, i % 2 == 0 ? f : slot ^ 1), y.join(slot, 2, slot, i % 2 == 0 ? f : slot ^ 1));
+        int other = i % 2 == 0 ? f : slot ^ 1;
+        CHECKS.due("join", x.join(slot, 2, slot, other), y.join(slot, 2, slot, other));
         x.variable(f, i % 12);
         y.variable(f, i % 12);
         CHECKS.due("mix", x.choose(f, f, g, h), y.choose(f, f, g, h));

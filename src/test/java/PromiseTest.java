@@ -153,6 +153,10 @@ public final class PromiseTest {
     CHECKS.due("6 again", x.some(22, 20, 2, 1), false);
     CHECKS.due("6 variables that it does not hang on", x.some(23, 20, 2, 0xFF8) && x.same(23, 21), true);
     x.constant(24, true);
+    for (int v = 0; v < 12; v++) {
+      CHECKS.due("6 each variable", x.some(27, v, v, 1 << v), v == 0);
+      CHECKS.due("6 each variable", x.same(27, 24), true);
+    }
     CHECKS.due("6 all variables, something true", x.some(25, 20, 2, 4095) && x.same(25, 24), true);
     x.join(26, 4, 2, 2);
     CHECKS.due("6 never both true", x.some(25, 21, 26, 4095) && x.same(25, 31), true);
