@@ -10,12 +10,20 @@ final class Checks {
   }
 
   private int wrong;
+  private String sentence = "";
+
+  /** Runs the test of one sentence of the document; what is not as due is printed with the sentence. */
+  void sentence(String quoted, Call test) {
+    sentence = "'" + quoted + "': ";
+    due("the test throws (0 nothing, 1 IllegalArgument, 2 UnsupportedOperation, 3 other)", thrown(test), NOTHING);
+    sentence = "";
+  }
 
   void due(String what, long got, long want) {
     if (got != want) {
       wrong++;
       if (wrong <= 20) {
-        System.out.println(what + " answered " + got + ", due is " + want);
+        System.out.println(sentence + what + " answered " + got + ", due is " + want);
       }
     }
   }

@@ -41,8 +41,45 @@ final class Inside {
     return ((int[]) read(nodes, "variables")).clone();
   }
 
+  int[] levels() {
+    return (int[]) read(nodes, "levels");
+  }
+
+  int[] heads() {
+    return (int[]) read(nodes, "heads");
+  }
+
   int size() {
     return (Integer) read(nodes, "size");
+  }
+
+  /** For how many variables the number of nodes that ask them is told wrongly. */
+  int wrongHeld() {
+    int[] due = new int[12];
+    for (int head : heads()) {
+      for (int node = head; node != 0; node = rows()[node * WIDTH + NEXT]) {
+        due[rows()[node * WIDTH + ASKED]]++;
+      }
+    }
+    int[] held = (int[]) read(nodes, "held");
+    int wrong = 0;
+    for (int v = 0; v < 12; v++) {
+      wrong += held[v] == due[v] ? 0 : 1;
+    }
+    return wrong;
+  }
+
+  /** Puts a second node like the given one at the end of its chain; there must be a row that is free. */
+  void addTwin(int node) {
+    int[] rows = rows();
+    int twin = (Integer) read(nodes, "used");
+    System.arraycopy(rows, node * WIDTH, rows, twin * WIDTH, WIDTH);
+    rows[twin * WIDTH + NEXT] = 0;
+    int last = node;
+    while (rows[last * WIDTH + NEXT] != 0) {
+      last = rows[last * WIDTH + NEXT];
+    }
+    rows[last * WIDTH + NEXT] = twin;
   }
 
   /** How many nodes the slots need, the ends not counted. */
@@ -68,7 +105,7 @@ final class Inside {
     int[] rows = rows();
     int[] due = new int[rows.length / WIDTH];
     boolean[] there = new boolean[due.length];
-    for (int head : (int[]) read(nodes, "heads")) {
+    for (int head : heads()) {
       for (int node = head; node != 0; node = rows[node * WIDTH + NEXT]) {
         there[node] = true;
         due[rows[node * WIDTH + LOW]]++;

@@ -1,4 +1,7 @@
-/** The thirteen promises one by one: ordinary inputs, the edges, and wrong inputs. */
+/**
+ * The thirteen promises one by one: ordinary inputs, the edges, and wrong inputs. To see all ways it makes
+ * more calls on an object than are promised, which this class still answers; TermsTest keeps to 512.
+ */
 public final class PromiseTest {
   private static final Checks CHECKS = new Checks();
   private static final int[] WRONG_SLOTS = {-1, 32, Integer.MIN_VALUE, Integer.MAX_VALUE};

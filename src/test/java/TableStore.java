@@ -1,7 +1,7 @@
 import java.util.BitSet;
 
 /** The document again, with a table of 4096 truths for each slot: what the tests compare with. */
-final class TableStore {
+final class TableStore implements Store {
   private static final int WAYS = 4096;
   private static final int EVEN = 0x555;
 
@@ -31,14 +31,16 @@ final class TableStore {
     }
   }
 
-  void constant(int slot, boolean yes) {
+  @Override
+  public void constant(int slot, boolean yes) {
     slots(slot);
     BitSet table = new BitSet(WAYS);
     table.set(0, WAYS, yes);
     put(slot, table);
   }
 
-  void variable(int slot, int v) {
+  @Override
+  public void variable(int slot, int v) {
     slots(slot);
     range(v, 12);
     BitSet table = new BitSet(WAYS);
@@ -48,7 +50,8 @@ final class TableStore {
     put(slot, table);
   }
 
-  boolean choose(int slot, int f, int g, int h) {
+  @Override
+  public boolean choose(int slot, int f, int g, int h) {
     slots(slot, f, g, h);
     BitSet table = new BitSet(WAYS);
     for (int way = 0; way < WAYS; way++) {
@@ -57,7 +60,8 @@ final class TableStore {
     return put(slot, table);
   }
 
-  boolean join(int slot, int kind, int f, int g) {
+  @Override
+  public boolean join(int slot, int kind, int f, int g) {
     slots(slot, f, g);
     range(kind, 5);
     BitSet table = (BitSet) slots[f].clone();
@@ -75,7 +79,8 @@ final class TableStore {
     return put(slot, table);
   }
 
-  boolean some(int slot, int f, int g, int mask) {
+  @Override
+  public boolean some(int slot, int f, int g, int mask) {
     slots(slot, f, g);
     range(mask, WAYS);
     BitSet met = new BitSet(WAYS);
@@ -91,7 +96,8 @@ final class TableStore {
     return put(slot, table);
   }
 
-  boolean turn(int slot, int f) {
+  @Override
+  public boolean turn(int slot, int f) {
     slots(slot, f);
     BitSet table = new BitSet(WAYS);
     for (int way = 0; way < WAYS; way++) {
@@ -100,18 +106,21 @@ final class TableStore {
     return put(slot, table);
   }
 
-  boolean value(int slot, int way) {
+  @Override
+  public boolean value(int slot, int way) {
     slots(slot);
     range(way, WAYS);
     return slots[slot].get(way);
   }
 
-  boolean same(int slot, int other) {
+  @Override
+  public boolean same(int slot, int other) {
     slots(slot, other);
     return slots[slot].equals(slots[other]);
   }
 
-  int count(int slot) {
+  @Override
+  public int count(int slot) {
     if ((support(slot) & ~EVEN) != 0) {
       throw new UnsupportedOperationException();
     }
@@ -124,7 +133,8 @@ final class TableStore {
     return rows;
   }
 
-  int support(int slot) {
+  @Override
+  public int support(int slot) {
     slots(slot);
     int mask = 0;
     for (int v = 0; v < 12; v++) {
@@ -138,7 +148,8 @@ final class TableStore {
     return mask;
   }
 
-  int tidy(int what) {
+  @Override
+  public int tidy(int what) {
     range(what, 3);
     int found = 0;
     for (BitSet table : slots) {
@@ -149,7 +160,8 @@ final class TableStore {
     return found;
   }
 
-  int wrong() {
+  @Override
+  public int wrong() {
     return 0;
   }
 }
