@@ -445,19 +445,17 @@ public final class AskingBoundaryTest {
     CHECKS.due("the only one is there twice", y.wrong(), 1);
   }
 
-  /** A node that need not be there: wherever it stands, it is one that is not in order. */
+  /** A node that need not be there: in whichever chain it stands, it is one that is not in order. */
   private static void wrongSeesNeedlessNodes() {
-    Counted x = new Counted();
-    x.variable(0, 3);
-    int node = x.inside().slots()[0];
-    int[] heads = x.inside().heads();
-    for (int head = 0; head < heads.length; head++) {
-      heads[head] = 0;
-    }
-    x.inside().rows()[node * Inside.WIDTH + Inside.HIGH] = 0;
-    for (int head = 0; head < heads.length && x.left() > 0; head++) {
-      // only the chains of variable 3
-      if (head * 12 / heads.length == 3) {
+    for (int v : new int[] {0, 11}) {
+      Counted x = new Counted();
+      x.variable(0, v);
+      int node = x.inside().slots()[0];
+      x.inside().rows()[node * Inside.WIDTH + Inside.HIGH] = 0;
+      int[] heads = x.inside().heads();
+      Arrays.fill(heads, 0);
+      int chains = heads.length / 12;
+      for (int head = v * chains; head < v * chains + chains; head++) {
         heads[head] = node;
         CHECKS.due("both ways go on to FALSE", x.wrong(), 1);
         heads[head] = 0;
