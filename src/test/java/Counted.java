@@ -3,16 +3,7 @@ final class Counted implements Store {
   static final int CALLS = 512;
 
   private final DiagramStore store = new DiagramStore();
-  private int left;
-
-  Counted() {
-    this(CALLS);
-  }
-
-  /** For tests of this very class, which still answers rightly after the last call that is promised. */
-  Counted(int calls) {
-    left = calls;
-  }
+  private int left = CALLS;
 
   int left() {
     return left;

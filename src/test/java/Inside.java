@@ -53,6 +53,34 @@ final class Inside {
     return (Integer) read(nodes, "size");
   }
 
+  /** How many rows have ever been in use at once, the two ends with them. */
+  int used() {
+    return (Integer) read(nodes, "used");
+  }
+
+  /** For how many ways the slots together do not give what another store gives; it is no call. */
+  int waysOff(Store due) {
+    int[] rows = rows();
+    int off = 0;
+    for (int slot = 0; slot < 32; slot++) {
+      int root = slots()[slot];
+      for (int way = 0; way < 4096; way++) {
+        off += truth(rows, root, way) == due.value(slot, way) ? 0 : 1;
+      }
+    }
+    return off;
+  }
+
+  private static boolean truth(int[] rows, int root, int way) {
+    int node = root;
+    // on a way down that is right, each variable is asked once at most
+    for (int step = 0; step < 12 && node > 1; step++) {
+      boolean yes = (way >> rows[node * WIDTH + ASKED] & 1) == 1;
+      node = rows[node * WIDTH + (yes ? HIGH : LOW)];
+    }
+    return node == 1;
+  }
+
   /** For how many variables the number of nodes that ask them is told wrongly. */
   int wrongHeld() {
     int[] due = new int[12];
@@ -72,7 +100,7 @@ final class Inside {
   /** Puts a second node like the given one at the end of its chain; there must be a row that is free. */
   void addTwin(int node) {
     int[] rows = rows();
-    int twin = (Integer) read(nodes, "used");
+    int twin = used();
     System.arraycopy(rows, node * WIDTH, rows, twin * WIDTH, WIDTH);
     rows[twin * WIDTH + NEXT] = 0;
     int last = node;

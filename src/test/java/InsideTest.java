@@ -5,8 +5,8 @@ public final class InsideTest {
   private static final Checks CHECKS = new Checks();
 
   /** Slot 20: all six pairs v and v + 6 differ, which needs much in the order of the numbers. */
-  private static DiagramStore withPairs() {
-    DiagramStore x = new DiagramStore();
+  private static Counted withPairs() {
+    Counted x = new Counted();
     for (int v = 0; v < 12; v++) {
       x.variable(v, v);
     }
@@ -19,8 +19,8 @@ public final class InsideTest {
   }
 
   private static void throwsAway() {
-    DiagramStore x = withPairs();
-    Inside inside = new Inside(x);
+    Counted x = withPairs();
+    Inside inside = x.inside();
     CHECKS.due("what was made on the way is still there", inside.size() > inside.needed(), true);
     x.tidy(0);
     CHECKS.due("only what is needed is there", inside.size(), inside.needed());
@@ -32,8 +32,8 @@ public final class InsideTest {
   }
 
   private static void seeksLess() {
-    DiagramStore x = withPairs();
-    Inside inside = new Inside(x);
+    Counted x = withPairs();
+    Inside inside = x.inside();
     x.tidy(0);
     int before = inside.size();
     x.tidy(1);
@@ -44,8 +44,8 @@ public final class InsideTest {
   }
 
   private static void turnsRound() {
-    DiagramStore x = withPairs();
-    Inside inside = new Inside(x);
+    Counted x = withPairs();
+    Inside inside = x.inside();
     for (int round = 0; round < 4; round++) {
       int[] before = inside.order();
       x.tidy(2);
@@ -61,8 +61,8 @@ public final class InsideTest {
     int[] fields = {Inside.ASKED, Inside.LOW, Inside.HIGH};
     for (int field : fields) {
       for (int wrongNumber = 0; wrongNumber < 12; wrongNumber++) {
-        DiagramStore x = withPairs();
-        Inside inside = new Inside(x);
+        Counted x = withPairs();
+        Inside inside = x.inside();
         int root = inside.slots()[20];
         int at = root * Inside.WIDTH + field;
         if (inside.rows()[at] != wrongNumber) {
@@ -71,11 +71,11 @@ public final class InsideTest {
         }
       }
     }
-    DiagramStore x = new DiagramStore();
+    Counted x = new Counted();
     x.variable(0, 0);
     x.tidy(2);
     CHECKS.due("nothing is wrong", x.wrong(), 0);
-    Inside inside = new Inside(x);
+    Inside inside = x.inside();
     int[] rows = inside.rows();
     int node = inside.slots()[0];
     int twin = node + 1;
@@ -84,57 +84,70 @@ public final class InsideTest {
     CHECKS.due("a node is there twice", x.wrong(), 1);
   }
 
-  /** Far more calls than an object is used for, until the slots hold about as much as they can. */
-  private static void fillsUp() {
-    Random random = new Random(7);
-    DiagramStore x = withPairs();
-    TableStore y = new TableStore();
-    Inside inside = new Inside(x);
-    for (int v = 0; v < 12; v++) {
-      y.variable(v, v);
-      x.variable(20 + v, v);
-      y.variable(20 + v, v);
+  /** Keeps on changing the slots in turn, so that in the end they need about as much as they can. */
+  private static void mix(Store x, Random random, int slot) {
+    int f = random.nextInt(32);
+    int g = random.nextInt(32);
+    int h = random.nextInt(32);
+    switch (random.nextInt(3)) {
+      case 0:
+        x.turn(slot, slot);
+        break;
+      case 1:
+        x.choose(slot, f, g, h);
+        break;
+      default:
+        x.join(slot, 2, slot, f);
+        break;
     }
-    for (int slot = 12; slot < 20; slot++) {
-      x.variable(slot, slot - 12);
-      y.variable(slot, slot - 12);
-    }
-    int most = 0;
-    for (int i = 0; i < 4000; i++) {
-      int slot = random.nextInt(32);
-      int f = random.nextInt(32);
-      int g = random.nextInt(32);
-      int h = random.nextInt(32);
-      if (i % 3 == 0) {
-        CHECKS.due("choose", x.choose(slot, f, g, h), y.choose(slot, f, g, h));
-      } else if (i % 3 == 1) {
-        CHECKS.due("turn", x.turn(slot, slot), y.turn(slot, slot));
-      } else {
-        int other = i % 2 == 0 ? f : slot ^ 1;
-        CHECKS.due("join", x.join(slot, 2, slot, other), y.join(slot, 2, slot, other));
-        x.variable(f, i % 12);
-        y.variable(f, i % 12);
-        CHECKS.due("mix", x.choose(f, f, g, h), y.choose(f, f, g, h));
-      }
-      if (i % 100 == 99) {
-        x.tidy(i / 100 % 3);
-        most = Math.max(most, inside.size());
-        CHECKS.due("nothing wrong", x.wrong(), 0);
-      }
-    }
-    System.out.println("fillsUp: at most " + most + " nodes, " + inside.fieldsAndElements() + " fields and elements");
-    CHECKS.due("the slots are nearly full", most > 12000, true);
+  }
+
+  private static void mixAll(Store x, int seed, int calls) {
+    Random random = new Random(seed);
     for (int slot = 0; slot < 32; slot++) {
-      for (int way = 0; way < 4096; way++) {
-        CHECKS.due("value", x.value(slot, way), y.value(slot, way));
-      }
+      x.variable(slot, slot % 12);
     }
-    CHECKS.due("the room of a full store", inside.fieldsAndElements() < 140000, true);
+    for (int i = 32; i < calls; i++) {
+      mix(x, random, i % 32);
+    }
+  }
+
+  /** The last calls on a store that is as full as it gets: tidyings, and the call that makes most nodes. */
+  private static void endOf(Store x, int seed) {
+    for (int i = 0; i < 6; i++) {
+      x.tidy((seed + i) % 3);
+      x.some(i, 8 + i, 16 + i, 0xFFF >> i);
+      x.some(31 - i, 24 - i, 12 + i, 0xFFF << i & 0xFFF);
+    }
+  }
+
+  private static void fillsUp() {
+    int mostNodes = 0;
+    int mostRows = 0;
+    long mostRoom = 0;
+    for (int seed = 0; seed < 12; seed++) {
+      Counted x = new Counted();
+      Store y = new TableStore();
+      mixAll(x, seed, 360 + 10 * seed);
+      mixAll(y, seed, 360 + 10 * seed);
+      mostNodes = Math.max(mostNodes, x.inside().needed());
+      endOf(x, seed);
+      endOf(y, seed);
+      CHECKS.due("wrong in a full store", x.wrong(), 0);
+      CHECKS.due("ways that are off in a full store", x.inside().waysOff(y), 0);
+      CHECKS.due("wrong references in a full store", x.inside().wrongReferences(), 0);
+      mostRows = Math.max(mostRows, x.inside().used());
+      mostRoom = Math.max(mostRoom, x.inside().fieldsAndElements());
+    }
+    System.out.println("fillsUp: " + mostNodes + " nodes needed, " + mostRows + " rows used at once, " + mostRoom
+        + " fields and elements");
+    CHECKS.due("the slots are nearly full", mostNodes > 15500, true);
+    CHECKS.due("the room of a full store", mostRoom < 140000, true);
   }
 
   private static void room() {
-    DiagramStore x = new DiagramStore();
-    CHECKS.due("512 new objects fit the room", new Inside(x).fieldsAndElements() * 512 < 7300000, true);
+    Counted x = new Counted();
+    CHECKS.due("512 new objects fit the room", x.inside().fieldsAndElements() * 512 < 7300000, true);
   }
 
   public static void main(String[] args) {

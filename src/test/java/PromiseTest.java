@@ -1,18 +1,21 @@
-/**
- * The thirteen promises one by one: ordinary inputs, the edges, and wrong inputs. To see all ways it makes
- * more calls on an object than are promised, which this class still answers; TermsTest keeps to 512.
- */
+/** The thirteen promises one by one: ordinary inputs, the edges, and wrong inputs. */
 public final class PromiseTest {
   private static final Checks CHECKS = new Checks();
   private static final int[] WRONG_SLOTS = {-1, 32, Integer.MIN_VALUE, Integer.MAX_VALUE};
+  private static final int[] TIDYINGS = {0, 1, 2, 2, 1, 0, 2, 0, 1};
   private static final int EVEN = 0x555;
 
-  private static DiagramStore withVariables() {
-    DiagramStore x = new DiagramStore();
+  private static Counted withVariables() {
+    Counted x = new Counted();
     for (int v = 0; v < 12; v++) {
       x.variable(v, v);
     }
     return x;
+  }
+
+  /** What a slot gives for all ways after some work on a store with the variables in the slots 0 to 11. */
+  private static void dueTruths(String what, Stores.Work work, int slot, Stores.Rule rule) {
+    CHECKS.due(what + ", ways that are off", Stores.waysOff(PromiseTest::withVariables, work, slot, rule), 0);
   }
 
   private static void dueIllegal(String what, Checks.Call call) {
@@ -24,7 +27,7 @@ public final class PromiseTest {
   }
 
   private static void promise1() {
-    DiagramStore x = new DiagramStore();
+    Counted x = new Counted();
     for (int slot = 0; slot < 32; slot++) {
       CHECKS.due("1 new same", x.same(slot, 31 - slot), true);
       CHECKS.due("1 new support", x.support(slot), 0);
@@ -34,22 +37,21 @@ public final class PromiseTest {
     }
     CHECKS.due("1 new tidy", x.tidy(0), 0);
     CHECKS.due("1 new wrong", x.wrong(), 0);
-    DiagramStore other = new DiagramStore();
+    Counted other = new Counted();
     other.constant(0, true);
     CHECKS.due("1 two objects share nothing", x.tidy(0), 0);
   }
 
   private static void promise2() {
-    DiagramStore x = new DiagramStore();
+    Counted x = new Counted();
     x.constant(0, true);
     x.constant(31, true);
     CHECKS.due("2 two slots true", x.tidy(0), 2);
     CHECKS.due("2 same", x.same(0, 31), true);
     CHECKS.due("2 support", x.support(0), 0);
     CHECKS.due("2 count", x.count(0), 64);
-    for (int way = 0; way < 4096; way++) {
-      CHECKS.due("2 value", x.value(31, way), true);
-    }
+    dueTruths("2 true", y -> y.constant(31, true), 31, way -> true);
+    dueTruths("2 false", y -> y.constant(0, false), 0, way -> false);
     x.constant(31, false);
     CHECKS.due("2 false again", x.value(31, 4095), false);
     CHECKS.due("2 same as an untouched one", x.same(31, 5), true);
@@ -60,12 +62,11 @@ public final class PromiseTest {
   }
 
   private static void promise3() {
-    DiagramStore x = withVariables();
+    Counted x = withVariables();
     for (int v = 0; v < 12; v++) {
+      int asked = v;
       CHECKS.due("3 support " + v, x.support(v), 1 << v);
-      for (int way = 0; way < 4096; way++) {
-        CHECKS.due("3 value " + v, x.value(v, way), bit(way, v));
-      }
+      dueTruths("3 variable " + v, y -> y.variable(31, asked), 31, way -> bit(way, asked));
     }
     for (int v : new int[] {-1, 12, Integer.MIN_VALUE, Integer.MAX_VALUE}) {
       dueIllegal("3 variable(0, " + v + ")", () -> x.variable(0, v));
@@ -81,11 +82,9 @@ public final class PromiseTest {
   }
 
   private static void promise4() {
-    DiagramStore x = withVariables();
+    Counted x = withVariables();
     CHECKS.due("4 choose is another", x.choose(20, 5, 0, 11), true);
-    for (int way = 0; way < 4096; way++) {
-      CHECKS.due("4 value", x.value(20, way), bit(way, 5) ? bit(way, 0) : bit(way, 11));
-    }
+    dueTruths("4 choose", y -> y.choose(20, 5, 0, 11), 20, way -> bit(way, 5) ? bit(way, 0) : bit(way, 11));
     CHECKS.due("4 choose again", x.choose(20, 5, 0, 11), false);
     CHECKS.due("4 by itself", x.choose(20, 20, 20, 20), false);
     CHECKS.due("4 the same on both sides", x.choose(21, 20, 3, 3), true);
@@ -119,16 +118,18 @@ public final class PromiseTest {
     }
   }
 
+  private static void dueJoined(int kind, int f, int g) {
+    dueTruths("5 kind " + kind, x -> x.join(20, kind, f, g), 20, way -> joined(kind, bit(way, f), bit(way, g)));
+  }
+
   private static void promise5() {
-    DiagramStore x = withVariables();
+    Counted x = withVariables();
     for (int kind = 0; kind < 5; kind++) {
       for (int f = 0; f < 12; f += 11) {
         for (int g = 3; g < 9; g += 5) {
           CHECKS.due("5 join is another", x.join(20, kind, f, g), kind != 4 || g == 3);
-          for (int way = 0; way < 4096; way++) {
-            CHECKS.due("5 kind " + kind, x.value(20, way), joined(kind, bit(way, f), bit(way, g)));
-          }
           CHECKS.due("5 join again", x.join(20, kind, f, g), false);
+          dueJoined(kind, f, g);
         }
       }
     }
@@ -148,7 +149,7 @@ public final class PromiseTest {
   }
 
   private static void promise6() {
-    DiagramStore x = withVariables();
+    Counted x = withVariables();
     x.join(20, 2, 0, 1);
     x.join(21, 0, 20, 2);
     CHECKS.due("6 no variable: and", x.some(22, 20, 2, 0) && x.same(22, 21), true);
@@ -177,7 +178,7 @@ public final class PromiseTest {
   }
 
   private static void promise7() {
-    DiagramStore x = withVariables();
+    Counted x = withVariables();
     for (int v = 0; v < 12; v++) {
       CHECKS.due("7 turn is another", x.turn(20, v), true);
       CHECKS.due("7 the partner", x.same(20, v ^ 1), true);
@@ -200,7 +201,7 @@ public final class PromiseTest {
   }
 
   private static void promise8() {
-    DiagramStore x = withVariables();
+    Counted x = withVariables();
     x.join(20, 0, 0, 11);
     CHECKS.due("8 the lowest bit is variable 0", x.value(0, 1), true);
     CHECKS.due("8 the highest bit is variable 11", x.value(11, 2048), true);
@@ -217,7 +218,7 @@ public final class PromiseTest {
   }
 
   private static void promise9() {
-    DiagramStore x = withVariables();
+    Counted x = withVariables();
     x.join(20, 0, 3, 4);
     x.join(21, 4, 3, 0);
     x.join(22, 4, 4, 0);
@@ -237,7 +238,7 @@ public final class PromiseTest {
   }
 
   private static void promise10() {
-    DiagramStore x = withVariables();
+    Counted x = withVariables();
     for (int v = 0; v < 12; v++) {
       int slot = v;
       CHECKS.dueThrow("10 variable " + v, () -> x.count(slot), v % 2 == 0 ? Checks.NOTHING : Checks.UNSUPPORTED);
@@ -260,7 +261,7 @@ public final class PromiseTest {
   }
 
   private static void promise11() {
-    DiagramStore x = withVariables();
+    Counted x = withVariables();
     x.constant(20, true);
     int mask = 0;
     for (int v = 11; v >= 0; v -= 2) {
@@ -279,20 +280,33 @@ public final class PromiseTest {
     }
   }
 
-  private static void promise12() {
-    DiagramStore x = withVariables();
+  /** Slot 12: the variables v and v + 6 differ for each v. */
+  private static void pairs(Store x) {
     x.constant(12, true);
     x.join(13, 2, 5, 5);
     for (int v = 0; v < 6; v++) {
       x.join(20, 2, v, v + 6);
       x.join(12, 0, 12, 20);
     }
-    for (int what : new int[] {0, 1, 2, 2, 1, 0, 2, 0, 1}) {
-      CHECKS.due("12 tidy(" + what + ")", x.tidy(what), 14);
+  }
+
+  private static void tidyFirst(Store x, int number) {
+    for (int i = 0; i < number; i++) {
+      x.tidy(TIDYINGS[i]);
+    }
+  }
+
+  private static void promise12() {
+    Counted x = withVariables();
+    pairs(x);
+    for (int i = 0; i < TIDYINGS.length; i++) {
+      int done = i + 1;
+      CHECKS.due("12 tidy(" + TIDYINGS[i] + ")", x.tidy(TIDYINGS[i]), 14);
       CHECKS.due("12 wrong after it", x.wrong(), 0);
-      for (int way = 0; way < 4096; way++) {
-        CHECKS.due("12 value after it", x.value(12, way), (way & 63 ^ way >> 6) == 63);
-      }
+      dueTruths("12 after " + done + " tidyings", y -> {
+        pairs(y);
+        tidyFirst(y, done);
+      }, 12, Stores::allPairs);
     }
     x.constant(12, false);
     CHECKS.due("12 one less", x.tidy(0), 13);
@@ -306,7 +320,7 @@ public final class PromiseTest {
   }
 
   private static void promise13() {
-    DiagramStore x = withVariables();
+    Counted x = withVariables();
     CHECKS.due("13 wrong", x.wrong(), 0);
     for (int i = 0; i < 120; i++) {
       x.choose(12 + i % 20, (i * 7 + 3) % 32, (i * 11 + 1) % 32, (i * 5) % 32);
@@ -320,7 +334,7 @@ public final class PromiseTest {
 
   /** The exception for a number out of range comes before the other one. */
   private static void orderOfThrows() {
-    DiagramStore x = withVariables();
+    Counted x = withVariables();
     CHECKS.dueThrow("count of an odd one", () -> x.count(1), Checks.UNSUPPORTED);
     CHECKS.dueThrow("count of a wrong slot", () -> x.count(33), Checks.ILLEGAL_ARGUMENT);
     CHECKS.due("all ways within EVEN are rows", x.support(1) & EVEN, 0);
